@@ -16,6 +16,7 @@ final class Body {
     private final List<Jump> jumps = new ArrayList<>();
     private final List<Catch> catches = new ArrayList<>();
     private final Map<String, Integer> labels = new HashMap<>();
+    private int instructions; // counted by op, two, jump, table and lookup
     private final int mostStack;
     private final int mostLocals;
 
@@ -28,6 +29,17 @@ final class Body {
         return code.size();
     }
 
+    int instructions() {
+        return instructions;
+    }
+
+    /** One instruction. */
+    Body op(int... bytes) {
+        instructions++;
+        return put(bytes);
+    }
+
+    /** Bytes that are not counted as instructions. */
     Body put(int... bytes) {
         for (int b : bytes) {
             code.write(b);
@@ -37,7 +49,7 @@ final class Body {
 
     /** An instruction with a number of two bytes. */
     Body two(int op, int v) {
-        return put(op, v >> 8, v);
+        return op(op, v >> 8, v);
     }
 
     Body label(String label) {
@@ -47,6 +59,7 @@ final class Body {
 
     Body jump(int op, String label) {
         int from = code.size();
+        instructions++;
         code.write(op);
         jumps.add(new Jump(code.size(), from, op == 200 ? 4 : 2, label));
         return put(op == 200 ? new int[4] : new int[2]);
@@ -63,6 +76,7 @@ final class Body {
 
     private int beginSwitch(int op, int filler) {
         int from = code.size();
+        instructions++;
         code.write(op);
         while (code.size() % 4 != 0) {
             code.write(filler);
