@@ -315,7 +315,7 @@ public final class CodeMachine {
         }
 
         long eightAt(int at) {
-            return (long) fourAt(at) << 32 | unsignedFourAt(at + 4);
+            return (long) fourAt(at) << 32 | fourAt(at + 4) & 0xFFFFFFFFL;
         }
 
         int entryAt(int number) {

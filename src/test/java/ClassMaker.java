@@ -38,8 +38,12 @@ final class ClassMaker {
     int behind; // bytes behind the file's attributes
 
     ClassMaker() {
+        this("Above");
+    }
+
+    ClassMaker(String classAbove) {
         own = type("Own");
-        above = type("Above");
+        above = type(classAbove);
     }
 
     static byte[] bytes(int... values) {
