@@ -16,6 +16,7 @@ final class Body {
     private final List<Jump> jumps = new ArrayList<>();
     private final List<Catch> catches = new ArrayList<>();
     private final Map<String, Integer> labels = new HashMap<>();
+    int filler = 77; // what stands before the operands of switches
     private int instructions; // counted by op, two, jump, table and lookup
     private final int mostStack;
     private final int mostLocals;
@@ -74,7 +75,7 @@ final class Body {
         return put(v >> 24, v >> 16, v >> 8, v);
     }
 
-    private int beginSwitch(int op, int filler) {
+    private int beginSwitch(int op) {
         int from = code.size();
         instructions++;
         code.write(op);
@@ -85,7 +86,7 @@ final class Body {
     }
 
     Body table(int low, String other, String... targets) {
-        int from = beginSwitch(170, 77);
+        int from = beginSwitch(170);
         offset(from, other);
         four(low);
         four(low + targets.length - 1);
@@ -96,7 +97,7 @@ final class Body {
     }
 
     Body lookup(String other, int[] numbers, String... targets) {
-        int from = beginSwitch(171, 255);
+        int from = beginSwitch(171);
         offset(from, other);
         four(numbers.length);
         for (int n = 0; n < numbers.length; n++) {

@@ -78,6 +78,7 @@ final class RandomProgram {
         String type = methodTypes[m];
         result = type.substring(type.indexOf(')') + 1);
         body = new Body(24, 24);
+        body.filler = 0;
         labels = 0;
         nextLocal = 0;
         ints.clear();
@@ -142,7 +143,11 @@ final class RandomProgram {
         int[] ints = {0, 1, -1, 31, 32, 63, 65535, Integer.MIN_VALUE, Integer.MAX_VALUE, random.nextInt(), random.nextInt(50)};
         int v = ints[random.nextInt(ints.length)];
         if (letter == 'N') {
-            body.op(1);
+            if (chance(90)) {
+                body.op(4 + random.nextInt(5)).op(188, 10);
+            } else {
+                body.op(1);
+            }
         } else if (letter == 'J') {
             if (chance(30)) {
                 body.op(9 + random.nextInt(2));
@@ -242,7 +247,7 @@ final class RandomProgram {
 
     private void index() {
         expression('I', 1);
-        body.op(16, 3).op(126);
+        body.op(chance(15) ? 6 : 4).op(126);
     }
 
     /** Only later methods are called, so that no one runs in itself. */
@@ -431,7 +436,7 @@ final class RandomProgram {
         }
         if (kind >= 4 && depth > 0) {
             expression('I', depth - 1);
-            body.op(8).op(126).op(4).op(100).op(188, 10);
+            body.op(16, 15).op(126).op(chance(15) ? 4 : 3).op(100).op(188, 10);
         } else if (kind == 3 && chance(20)) {
             body.op(1);
         } else {
