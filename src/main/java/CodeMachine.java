@@ -1603,12 +1603,12 @@ public final class CodeMachine {
                 case LOAD_LONG:
                 case LOAD_REFERENCE:
                     fits = localFits(op, local);
-                    frame.load(op, local);
+                    frame.pushLocal(op, local);
                     return fits;
                 case STORE_INT:
                 case STORE_LONG:
                 case STORE_REFERENCE:
-                    frame.store(op, local);
+                    frame.popToLocal(op, local);
                     return fits;
                 case GROW:
                     return localFits(LOAD_INT, local);
@@ -1994,7 +1994,7 @@ public final class CodeMachine {
             return kind == INT || (kind & NULL) != 0 ? kind : NONE;
         }
 
-        void load(int op, int local) {
+        void pushLocal(int op, int local) {
             switch (op) {
                 case LOAD_INT:
                     pushInt(valueAt(local));
@@ -2007,7 +2007,7 @@ public final class CodeMachine {
             }
         }
 
-        void store(int op, int local) {
+        void popToLocal(int op, int local) {
             int kind = kindDown(0);
             long value = take(op == STORE_LONG ? LETTER_LONG : LETTER_INT);
             int behind = local + 1;
@@ -2214,7 +2214,7 @@ public final class CodeMachine {
             if (op <= LOAD_REFERENCE) {
                 push(op, i);
             } else if (op >= STORE_INT && op <= STORE_REFERENCE) {
-                frame.store(op, code.index(i));
+                frame.popToLocal(op, code.index(i));
             } else if (op >= POP && op <= SWAP) {
                 frame.shuffle(op);
             } else if (op >= ADD && op <= LAST_XOR) {
@@ -2247,7 +2247,7 @@ public final class CodeMachine {
                     frame.pushLong(code.operand(i));
                     break;
                 default:
-                    frame.load(op, code.index(i));
+                    frame.pushLocal(op, code.index(i));
             }
         }
 
