@@ -404,9 +404,11 @@ public final class CodeMachine {
             return letter == LETTER_INTS ? 2 : 1;
         }
 
+        /** The field of this name and type, both told by NAMEs; -1 if there is none. */
         int fieldCalled(int name, int type) {
             for (int k = 0; k < fieldAt.length; k++) {
-                if (isCalled(fieldAt[k], name, type)) {
+                int at = fieldAt[k];
+                if (textOf(pairAt(at + 2)) == textOf(name) && textOf(pairAt(at + 4)) == textOf(type)) {
                     return k;
                 }
             }
@@ -415,15 +417,12 @@ public final class CodeMachine {
 
         int methodCalled(int name, int type) {
             for (int m = 0; m < methods.length; m++) {
-                if (isCalled(methods[m].flagsAt, name, type)) {
+                int at = methods[m].flagsAt;
+                if (textOf(pairAt(at + 2)) == textOf(name) && textOf(pairAt(at + 4)) == textOf(type)) {
                     return m;
                 }
             }
             return -1;
-        }
-
-        private boolean isCalled(int memberAt, int name, int type) {
-            return textOf(pairAt(memberAt + 2)) == textOf(name) && textOf(pairAt(memberAt + 4)) == textOf(type);
         }
 
         Method methodOf(int m) {
@@ -1033,10 +1032,6 @@ public final class CodeMachine {
             return has(i) ? heights[i] : -1;
         }
 
-        int kindBefore(int i, int place) {
-            return has(i) && place >= 0 && place < FRAME_PLACES ? kinds[i * FRAME_PLACES + place] : NONE;
-        }
-
         /** The number of the instruction that begins at this place of the file; -1 if the method has none there. */
         int numberAt(Method method, long place) {
             boolean inside = place >= method.start && place < method.start + method.length && place < numbers.length;
@@ -1514,7 +1509,7 @@ public final class CodeMachine {
             for (int n = 0; n < method.parameters.length(); n++) {
                 place = frame.giveLocal(place, method.parameters.charAt(n), 1);
             }
-            comeWithKinds(method.first);
+            comeWithKinds(method, method.first);
             for (int round = 0; round < MOST_ROUNDS && waitingCount > 0; round++) {
                 spreadKinds(method, nextWaiting());
             }
@@ -1524,62 +1519,58 @@ public final class CodeMachine {
             frame.copyKinds(code, i, heightOf(i));
             for (int c = 0; c < method.catchCount(); c++) {
                 if (method.catchHas(c, i)) {
-                    comeCaught(method.catchPart(c, Method.CATCH_AT));
+                    comeCaught(method, method.catchPart(c, Method.CATCH_AT));
                 }
             }
             // What is wrong here is told later, when all that can come has come.
             goesThrough(method, i);
             int op = code.op(i);
             if (Code.goesOn(op)) {
-                comeWithKinds(i + 1);
+                comeWithKinds(method, i + 1);
             }
             if (Code.isJump(op)) {
-                comeWithKinds(code.index(i));
+                comeWithKinds(method, code.index(i));
             }
             if (Code.isSwitch(op)) {
                 for (int pair = -1; pair < code.pairsOf(i); pair++) {
-                    comeWithKinds(code.numberAt(method, code.switchPlace(i, pair)));
+                    comeWithKinds(method, code.numberAt(method, code.switchPlace(i, pair)));
                 }
             }
         }
 
         /** The frame comes to instruction i. */
-        private void comeWithKinds(int i) {
+        private void comeWithKinds(Method method, int i) {
             if (hasHeightFault(i)) {
                 return;
             }
-            boolean changed = joinLocals(i);
-            for (int place = STACK; place < STACK + heightOf(i); place++) {
-                changed |= join(i, place, frame.kindAt(place));
-            }
-            if (changed) {
+            boolean changed = joinPlaces(i, 0, method.mostLocals);
+            if (joinPlaces(i, STACK, STACK + heightOf(i)) || changed || !come[i]) {
+                come[i] = true;
                 enqueue(i);
             }
         }
 
         /** The locals of the frame come to instruction i, with an error alone on the stack. */
-        private void comeCaught(int i) {
+        private void comeCaught(Method method, int i) {
             if (hasHeightFault(i)) {
                 return;
             }
-            boolean changed = joinLocals(i);
-            changed |= join(i, STACK, ERROR);
-            if (changed) {
+            boolean changed = joinPlaces(i, 0, method.mostLocals);
+            if (join(i * FRAME_PLACES + STACK, ERROR) || changed || !come[i]) {
+                come[i] = true;
                 enqueue(i);
             }
         }
 
-        private boolean joinLocals(int i) {
-            boolean changed = !come[i];
-            come[i] = true;
-            for (int place = 0; place < MOST_PLACES; place++) {
-                changed |= join(i, place, frame.kindAt(place));
+        private boolean joinPlaces(int i, int from, int to) {
+            boolean changed = false;
+            for (int place = from; place < to; place++) {
+                changed |= join(i * FRAME_PLACES + place, frame.kindAt(place));
             }
             return changed;
         }
 
-        private boolean join(int i, int place, int kind) {
-            int at = i * FRAME_PLACES + place;
+        private boolean join(int at, int kind) {
             if (at < 0 || at >= code.kinds.length) {
                 return false;
             }
@@ -1844,25 +1835,30 @@ public final class CodeMachine {
 
         void copyKinds(Code code, int i, int newHeight) {
             height = newHeight;
-            for (int place = 0; place < FRAME_PLACES; place++) {
-                kinds[place] = (byte) code.kindBefore(i, place);
+            int begin = i * FRAME_PLACES;
+            if (begin >= 0 && begin <= code.kinds.length - FRAME_PLACES) {
+                System.arraycopy(code.kinds, begin, kinds, 0, FRAME_PLACES);
             }
         }
 
         /** How many places have another type than is told before instruction i, or another height. */
         int straysBefore(Code code, int i) {
+            if (!code.has(i)) {
+                return 1;
+            }
             int strays = height == code.heightBefore(i) ? 0 : 1;
-            for (int place = 0; place < method.mostLocals; place++) {
-                strays += isStray(code.kindBefore(i, place), place);
-            }
-            for (int place = STACK; place < STACK + height; place++) {
-                strays += isStray(code.kindBefore(i, place), place);
-            }
-            return strays;
+            strays += straysAmong(code.kinds, i * FRAME_PLACES, 0, method.mostLocals);
+            return strays + straysAmong(code.kinds, i * FRAME_PLACES, STACK, STACK + height);
         }
 
-        private int isStray(int told, int place) {
-            return (kindAt(place) & told) == told ? 0 : 1;
+        private int straysAmong(byte[] told, int begin, int from, int to) {
+            int strays = 0;
+            for (int place = from; place < to && place < FRAME_PLACES && begin + place < told.length; place++) {
+                if ((kinds[place] & told[begin + place]) != told[begin + place]) {
+                    strays++;
+                }
+            }
+            return strays;
         }
 
         int kindAt(int place) {
