@@ -301,6 +301,11 @@ public final class RunTest {
         }
         Body back = new Body(2, 2).op(3).op(60).label("a").op(26).jump(153, "b").op(27).op(26).op(96).op(60)
             .op(132, 0, 255).jump(200, "a").label("b").op(27).op(172);
+        for (int op : new int[] {167, 200}) {
+            Body over = new Body(3, 2).op(26).op(27).op(8).jump(op, "a").label("b").op(100).op(100).op(172).label("a").jump(op, "b");
+            Due.gives("goto with a stack", 1 - (9 - 5), of("goto", "(II)I", over), 1, 9);
+            Due.gives("goto with a stack", 9 - (1 - 5), of("goto", "(II)I", over), 9, 1);
+        }
         Due.gives("a loop", 5050, of("loop", "(I)I", back), 100);
     }
 
