@@ -174,9 +174,11 @@ public final class CodeMachine {
     public int load() {
         ClassFile file = new ClassFile(Arrays.copyOf(tray, filled));
         filled = 0;
-        boolean sound = new Layout(file).holds() && new Decoder(file).holds() && new Checker(file).holds();
-        if (sound) {
-            stage.put(file);
+        if (new Layout(file).holds()) {
+            Decoder decoder = new Decoder(file);
+            if (decoder.holds() && new Checker(file, decoder.code).holds()) {
+                stage.put(file, decoder.code);
+            }
         }
         placeOfFault = file.faultPlace;
         return file.brokenRule;
@@ -188,7 +190,8 @@ public final class CodeMachine {
 
     public int size(int what) {
         ClassFile file = stage.file;
-        if (file == null || file.code == null) {
+        Code code = stage.code;
+        if (file == null || code == null) {
             return -1;
         }
         switch (what) {
@@ -197,26 +200,26 @@ public final class CodeMachine {
             case 1:
                 return file.methods.length;
             case 2:
-                return file.code.count;
+                return code.count;
             default:
                 return -1;
         }
     }
 
     public int height(int m, int i) {
-        ClassFile file = stage.file;
+        Code code = stage.code;
         Method method = stage.method(m);
-        if (method == null || file.code == null || i < 0 || i >= method.count) {
+        if (code == null || method == null || i < 0 || i >= method.count) {
             return -1;
         }
-        return file.code.heightBefore(method.first + i);
+        return code.heightBefore(method.first + i);
     }
 
     public boolean reset() {
         if (stage.file == null) {
             return false;
         }
-        stage.put(stage.file);
+        stage.clear();
         return true;
     }
 
@@ -232,8 +235,9 @@ public final class CodeMachine {
     public int run(int m, int fuel) {
         int given = argumentCount;
         argumentCount = 0;
+        Code code = stage.code;
         Method method = stage.method(m);
-        if (method == null) {
+        if (code == null || method == null) {
             return -1;
         }
         if (!stage.takes(method, arguments, given)) {
@@ -242,7 +246,7 @@ public final class CodeMachine {
         if (fuel < 0 || fuel > MOST_FUEL) {
             return -3;
         }
-        return runner.play(method, arguments, fuel);
+        return runner.play(code, method, arguments, fuel);
     }
 
     public long result() {
@@ -285,7 +289,6 @@ public final class CodeMachine {
         String fieldLetters = "";
         Method[] methods = new Method[0];
         int attributesAt;
-        Code code; // null until the rows of instructions are looked at
 
         ClassFile(byte[] bytes) {
             this.bytes = bytes;
@@ -1111,7 +1114,7 @@ public final class CodeMachine {
         };
 
         private final ClassFile file;
-        private final Code code;
+        final Code code;
 
         Decoder(ClassFile file) {
             this.file = file;
@@ -1120,7 +1123,6 @@ public final class CodeMachine {
                 bytes += method.length;
             }
             this.code = new Code(file, bytes);
-            file.code = code;
         }
 
         boolean holds() {
@@ -1384,9 +1386,9 @@ public final class CodeMachine {
         private int waitingCount;
         private final Frame frame = new Frame();
 
-        Checker(ClassFile file) {
+        Checker(ClassFile file, Code code) {
             this.file = file;
-            this.code = file.code;
+            this.code = code;
             int count = code.count;
             comeHeights = new int[count];
             goneHeights = new int[count];
@@ -1820,7 +1822,7 @@ public final class CodeMachine {
         private final long[] values = new long[FRAME_PLACES]; // a long stands whole in its lower place
         private final byte[] kinds = new byte[FRAME_PLACES];
         private int height;
-        Method method;
+        Method method = new Method();
         int current; // the instruction that was begun last
         int next;
 
@@ -2068,14 +2070,20 @@ public final class CodeMachine {
 
     /** The one file that is staged, with its fields and the arrays that were made on it. */
     private static final class Stage {
-        ClassFile file;
+        ClassFile file; // null as long as none has been staged
+        Code code;
         private final long[] values = new long[MOST_MEMBERS];
         private final int[] elements = new int[MOST_ELEMENTS];
         private final int[] ends = new int[MOST_ARRAYS + 1]; // behind the elements of array a; ends[0] is 0
         private int arrays;
 
-        void put(ClassFile staged) {
-            file = staged;
+        void put(ClassFile stagedFile, Code itsCode) {
+            file = stagedFile;
+            code = itsCode;
+            clear();
+        }
+
+        void clear() {
             arrays = 0;
             Arrays.fill(values, 0);
         }
@@ -2099,6 +2107,10 @@ public final class CodeMachine {
 
         private boolean hasField(int k) {
             return file != null && k >= 0 && k < file.fieldAt.length && k < MOST_MEMBERS;
+        }
+
+        char letterOf(int k) {
+            return file == null ? NO_LETTER : file.fieldLetter(k);
         }
 
         long valueOf(int k) {
@@ -2153,7 +2165,7 @@ public final class CodeMachine {
         private int depth;
         private int outcome;
         private Frame frame;
-        private Code code;
+        private Code code = new Code(new ClassFile(new byte[0]), 0); // of the staged file, once a run has begun
         long result;
         int error = NO_ERROR;
         int steps;
@@ -2167,8 +2179,8 @@ public final class CodeMachine {
             frame = frames[0];
         }
 
-        int play(Method method, long[] arguments, int fuel) {
-            code = stage.file.code;
+        int play(Code staged, Method method, long[] arguments, int fuel) {
+            code = staged;
             depth = 0;
             outcome = GOING;
             result = 0;
@@ -2378,10 +2390,10 @@ public final class CodeMachine {
             int k = code.index(i);
             switch (op) {
                 case GET_FIELD:
-                    frame.give(stage.file.fieldLetter(k), stage.valueOf(k));
+                    frame.give(stage.letterOf(k), stage.valueOf(k));
                     break;
                 case PUT_FIELD:
-                    stage.setValue(k, frame.take(stage.file.fieldLetter(k)));
+                    stage.setValue(k, frame.take(stage.letterOf(k)));
                     break;
                 case CALL:
                     call(stage.method(k));

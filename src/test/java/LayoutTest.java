@@ -10,6 +10,7 @@ public final class LayoutTest {
         countsAreBounded();
         theFirstPlaceIsTold();
         entriesPointToTheirSort();
+        theFirstEntryPoints();
         flagsAreAsTold();
         classesAreClasses();
         namesAreNames();
@@ -160,6 +161,18 @@ public final class LayoutTest {
         Due.is("size(2)", 0, x.size(2));
         Due.is("run()", -1, x.run(0, 1));
         longEndsThePool();
+        Due.breaks("no pool at the end", 5, 8, Arrays.copyOf(pair(bytes, 8, 0), 10));
+        Due.breaks("too large a pool at the end", 5, 8, Arrays.copyOf(pair(bytes, 8, 501), 10));
+        Due.breaks("a pool at the end", 2, 10, Arrays.copyOf(pair(bytes, 8, 1), 10));
+        ClassMaker empty = new ClassMaker();
+        empty.entries.clear();
+        Due.breaks("a pool of no entries", 8, 12, empty.make());
+        ClassMaker many = new ClassMaker();
+        many.make();
+        Due.breaks("too many fields at the end", 5, many.fieldsAt,
+            Arrays.copyOf(pair(many.make(), many.fieldsAt, 25), many.fieldsAt + 2));
+        Due.breaks("too many methods at the end", 5, many.methodsAt,
+            Arrays.copyOf(pair(many.make(), many.methodsAt, 25), many.methodsAt + 2));
     }
 
     /** The pool may end with a long: its second number is no entry, and is not asked for. */
@@ -229,6 +242,23 @@ public final class LayoutTest {
         } else {
             Due.breaks("entry " + tag + " part " + part + " to " + sortOfOther, 6, maker.entriesAt.get(number), bytes);
         }
+    }
+
+    /** The first entry is looked at as all others are. */
+    private static void theFirstEntryPoints() {
+        for (int tag : new int[] {7, 9, 10, 12}) {
+            ClassMaker maker = new ClassMaker();
+            maker.entries.set(0, tag == 7 ? ClassMaker.bytes(7, 0, 1) : ClassMaker.bytes(tag, 0, 1, 0, 1));
+            Due.breaks("the first entry", 6, 10, maker.make());
+        }
+        ClassMaker maker = full();
+        byte[] first = maker.entries.get(0);
+        int name = maker.entry(1, 0, 3, 'O', 'w', 'n');
+        maker.entries.set(1, ClassMaker.bytes(7, name >> 8, name));
+        int pair = maker.pair(maker.name("f"), maker.name("()I"));
+        maker.entries.set(0, ClassMaker.bytes(9, 0, 2, pair >> 8, pair));
+        Due.breaks("the type of the first entry", 10, 10, maker.make());
+        Due.is("it was a NAME", 1, first[0]);
     }
 
     private static int[] numbersOfSorts(ClassMaker maker) {
