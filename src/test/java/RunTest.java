@@ -357,6 +357,9 @@ public final class RunTest {
         }
         Body none = new Body(1, 1).op(26).lookup("d", new int[0]).label("d").op(8).op(172);
         Due.gives("lookup of none", 5, of("lookup", "(I)I", none), 3);
+        // What stands behind a lookup looks like one more pair, and is none.
+        Body behind = new Body(1, 1).op(26).lookup("d", new int[] {5}, "d").label("d").put(0, 0, 0, 0, 0, 0, 0, 0).op(8).op(172);
+        Due.gives("no pair", 5, of("lookup", "(I)I", behind), 0);
         Body edge = new Body(1, 1).op(26).table(Integer.MAX_VALUE - 1, "d", "a", "b")
             .label("a").op(4).op(172).label("b").op(5).op(172).label("d").op(6).op(172);
         CodeMachine edges = of("table at the edge", "(I)I", edge);
