@@ -4,6 +4,7 @@ import java.util.Random;
 public final class LoadFuzzTest {
     private static final String[] ERRORS = {"DivideError", "NullError", "IndexError", "SizeError"};
     private static final int[] told = new int[101];
+    private static final int[] outcomes = new int[5];
 
     public static void main(String[] args) {
         int rounds = args.length > 0 ? Integer.parseInt(args[0]) : 1;
@@ -20,6 +21,7 @@ public final class LoadFuzzTest {
             }
         }
         System.out.println();
+        Due.is("runs returned, failed, and had no fuel", true, outcomes[0] > 0 && outcomes[1] > 0 && outcomes[2] > 0);
         Due.close();
     }
 
@@ -40,8 +42,30 @@ public final class LoadFuzzTest {
                     Due.is(what + ": height(" + m + ", " + i + ")", heights[i], x.height(m, i));
                 }
                 Due.is(what + ": height()", -1, x.height(m, heights.length));
+                for (int fuel = 1; fuel <= 1000; fuel *= 10) {
+                    runsWithoutStrays(what, x, m, fuel);
+                }
             }
         }
+    }
+
+    /** Whatever was let through runs with the types and heights that were told. */
+    private static void runsWithoutStrays(String what, CodeMachine x, int m, int fuel) {
+        for (int given = 0; given <= 8; given++) {
+            for (int n = 0; n < given; n++) {
+                x.argument(0);
+            }
+            int outcome = x.run(m, fuel);
+            if (outcome >= 0) {
+                outcomes[outcome]++;
+                Due.is(what + ": steps()", true, x.steps() <= fuel && (outcome != 2 || x.steps() == fuel));
+                Due.is(what + ": error()", outcome == 1, x.error() >= 0);
+                Due.is(what + ": strays()", 0, x.strays());
+                return;
+            }
+            Due.is(what + ": run()", -2, outcome);
+        }
+        Due.is(what + ": some number of arguments is right", true, false);
     }
 
     private static void spoilPrograms(long seed) {
