@@ -1419,7 +1419,11 @@ public final class CodeMachine {
         }
 
         private int heightOf(int i) {
-            return has(i) && comeHeights[i] != 0 ? Integer.numberOfTrailingZeros(comeHeights[i]) : -1;
+            if (!has(i) || comeHeights[i] == 0) {
+                return -1;
+            }
+            int lowest = comeHeights[i] & -comeHeights[i];
+            return Integer.bitCount(lowest - 1);
         }
 
         private boolean hasHeightFault(int i) {
