@@ -100,7 +100,6 @@ public final class CodeMachine {
     private static final int USHR = 124;
     private static final int AND = 126;
     private static final int OR = 128;
-    private static final int XOR = 130;
     private static final int LAST_XOR = 131;
     private static final int GROW = 132;
     private static final int INT_TO_LONG = 133;

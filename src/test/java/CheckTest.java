@@ -18,24 +18,38 @@ public final class CheckTest {
         storesBreakHalves();
         growLeavesTheType();
         waysJoin();
+        halvesJoin();
         catchesGetTheLocalsBefore();
+        eachCatchIsComeTo();
+        whatComesLaterGoesOnToo();
         tooFewAndTooMany();
+        stacksAreAsHighAsTold();
+        shufflesHaveTooFew();
         heightsDiffer();
         theLastDoesNotGoOn();
+        everyLastInstruction();
         faultsOfHeightStopTypes();
+        faultsOfHeightStopTypesInCatches();
         theFirstFaultIsTold();
         badTypesAreNotCopied();
+        badShufflesCopyNothing();
+        resultsHaveTheirTypesWhateverWasTaken();
+        growKeepsWhatItFinds();
         heightsAreTold();
         Due.close();
     }
 
     /** Begins a method of type (I[IJ)result: locals 0 an int, 1 ints, 2 and 3 a long, 4 an error, 5 nothing. */
     private static void begin(String result) {
+        begin(result, 24);
+    }
+
+    private static void begin(String result, int mostStack) {
         maker = new ClassMaker();
         for (String type : new String[] {"I", "J", "[I"}) {
             maker.addField("f" + type.charAt(0), type);
         }
-        body = new Body(24, 12).label("t0").op(1).op(191).label("t1");
+        body = new Body(mostStack, 12).label("t0").op(1).op(191).label("t1");
         body.caught("t0", "t1", "t1", 0);
         body.op(58, 4);
         labels = 0;
@@ -472,6 +486,42 @@ public final class CheckTest {
         finish(left + " and " + right + " to " + probe + (inLocal ? " in a local" : ""), fits ? -1 : at);
     }
 
+    /** At local 6 one way leaves the upper half of a long (H), the lower one (J) or something else. */
+    private static void halvesJoin() {
+        String kinds = "HJIN0EX";
+        for (char left : kinds.toCharArray()) {
+            for (char right : kinds.toCharArray()) {
+                boolean references = "N0E".indexOf(left) >= 0 && "N0E".indexOf(right) >= 0;
+                halves(left, right, "an int", left == 'I' && right == 'I', 21, 6);
+                halves(left, right, "a long", left == 'J' && right == 'J', 22, 6);
+                halves(left, right, "a long before", left == 'H' && right == 'H', 22, 5);
+                halves(left, right, "a reference", references && join(left, right) != 'X', 25, 6);
+                halves(left, right, "growing", left == 'I' && right == 'I', 132, 6);
+            }
+        }
+    }
+
+    private static void halves(char left, char right, String what, boolean fits, int op, int local) {
+        begin("V");
+        body.op(26).jump(153, "other");
+        putAtSix(left);
+        body.jump(167, "both").label("other");
+        putAtSix(right);
+        body.label("both");
+        int at = body.instructions();
+        body.op(op == 132 ? new int[] {op, local, 1} : new int[] {op, local}).op(177);
+        finish(what + " of " + left + " and " + right, fits ? -1 : at);
+    }
+
+    private static void putAtSix(char unit) {
+        if (unit == 'H') {
+            body.op(32).op(55, 5);
+        } else if (unit != 'X') {
+            pushUnit(unit);
+            store(unit);
+        }
+    }
+
     private static void store(char unit) {
         body.op(unit == 'I' ? 54 : unit == 'J' ? 55 : 58, 6);
     }
@@ -495,6 +545,49 @@ public final class CheckTest {
         finish("no ints come on the stack", body.instructions() - 2);
     }
 
+    /** Both catches of an instruction are come to, though a run goes to the first alone; what no catch has comes to none. */
+    private static void eachCatchIsComeTo() {
+        begin("V");
+        body.label("f").op(0).label("t").op(177).label("h").op(191).label("i").op(87).op(177);
+        body.caught("f", "t", "h", 0).caught("f", "t", "i", 0);
+        finish("both handlers", -1);
+        begin("V");
+        body.label("f").op(0).label("t").op(177).label("h").op(191);
+        int at = body.instructions();
+        body.label("i").op(190).op(177).caught("f", "t", "h", 0).caught("f", "t", "i", 0);
+        finish("the second handler takes ints", at);
+        Body none = new Body(1, 0).op(177).label("f").op(0).label("t").op(177).label("h").op(190).op(87).op(177);
+        CodeMachine x = Due.loaded("nothing comes", ClassMaker.of("()V", none.caught("f", "t", "h", 0)));
+        for (int i = 0; i < 6; i++) {
+            Due.is("height(0, " + i + ")", i == 0 ? 0 : -1, x.height(0, i));
+        }
+        // The catch has its first instruction, and not the one at its end.
+        Body edge = new Body(1, 1).op(1).op(75).label("f").op(3).label("t").op(59).op(177).label("h").op(87).op(42).op(191);
+        Due.loaded("before the store at the end", ClassMaker.of("()V", edge.caught("f", "t", "h", 0)));
+        Body more = new Body(1, 1).op(1).op(75).label("f").op(3).op(59).label("t").op(177).label("h").op(87).op(42).op(191);
+        Due.loaded("what comes is from before the store", ClassMaker.of("()V", more.caught("f", "t", "h", 0)));
+        Body most = new Body(1, 1).op(1).op(75).label("f").op(3).op(59).op(177).label("t").label("h").op(87).op(42).op(191);
+        Due.breaks("and from behind it", 100, 6, ClassMaker.of("()V", most.caught("f", "t", "h", 0)).make());
+    }
+
+    /** The second time another type comes to the handler, or to the loop: what is behind it is looked at once more. */
+    private static void whatComesLaterGoesOnToo() {
+        for (boolean again : new boolean[] {false, true}) {
+            Body caught = new Body(1, 1).op(3).op(59).label("f").op(0).label("t").op(177).label("h").op(87).jump(167, "x")
+                .label("x").op(26).op(87).op(again ? 1 : 3).op(again ? 75 : 59).label("g").op(0).label("u").op(177)
+                .caught("f", "t", "h", 0).caught("g", "u", "h", 0);
+            Body loop = new Body(1, 1).op(3).op(59).label("h").op(0).jump(167, "x")
+                .label("x").op(26).op(87).op(again ? 1 : 3).op(again ? 75 : 59).jump(167, "h");
+            if (again) {
+                Due.breaks("behind the handler", 100, 6, ClassMaker.of("()V", caught).make());
+                Due.breaks("in the loop", 100, 4, ClassMaker.of("()V", loop).make());
+            } else {
+                Due.loaded("behind the handler", ClassMaker.of("()V", caught));
+                Due.loaded("in the loop", ClassMaker.of("()V", loop));
+            }
+        }
+    }
+
     private static ClassMaker small(int mostStack, int... code) {
         return ClassMaker.of("()V", new Body(mostStack, 2).put(code));
     }
@@ -512,6 +605,68 @@ public final class CheckTest {
         Due.loaded("a catch of what is not come to wants none",
             ClassMaker.of("()V", new Body(0, 0).put(177).label("f").put(177).label("h").put(177).caught("f", "h", "h", 0)));
         Due.loaded("two come, two go", small(2, 3, 3, 95, 88, 177));
+    }
+
+    /** What leaves more places than it found is a fault if MOST STACK is one place lower. */
+    private static void stacksAreAsHighAsTold() {
+        for (String taker : TAKERS) {
+            String[] parts = taker.split(" ");
+            String wanted = parts[1].replace("-", "").replace('A', 'N');
+            highest(taker, Integer.parseInt(parts[0]), wanted, places(parts[2].replace("-", "")) - places(wanted));
+        }
+        for (int op : new int[] {89, 90, 92}) {
+            highest("" + op, op, op == 89 ? "I" : "II", op == 92 ? 2 : 1);
+        }
+        highest("92 of a long", 92, "J", 2);
+        int[] code = new int[50];
+        for (int n = 0; n < 24; n++) {
+            code[n] = 3;
+            code[25 + n] = 87;
+        }
+        code[49] = 177;
+        CodeMachine x = Due.loaded("24 places", small(24, code));
+        Due.is("height()", 24, x.height(0, 24));
+        Due.is("height()", 24, x.height(0, 25));
+        Due.is("height()", 1, x.height(0, 48));
+        int[] faulty = code.clone();
+        faulty[24] = 3;
+        Due.breaks("25 places", 100, 24, small(24, faulty).make());
+        faulty[24] = 116;
+        faulty[26] = 117;
+        Due.breaks("types of 24 places", 100, 26, small(24, faulty).make());
+        faulty[26] = 87;
+        faulty[49] = 87;
+        Due.breaks("a fault behind 24 places", 100, 49, small(24, faulty).make());
+    }
+
+    private static void highest(String what, int op, String units, int more) {
+        if (more <= 0) {
+            return;
+        }
+        for (int missing = 0; missing < 2; missing++) {
+            begin("V", places(units) + 1 + more - missing);
+            body.op(3);
+            pushUnits(units);
+            int at = body.instructions();
+            put(op);
+            body.op(177);
+            finish(what + " with " + missing + " missing", missing == 0 ? -1 : at);
+        }
+    }
+
+    private static void shufflesHaveTooFew() {
+        for (int op : new int[] {87, 88, 89, 90, 92, 95}) {
+            int wanted = op == 87 || op == 89 ? 1 : 2;
+            for (int places = 0; places <= 3; places++) {
+                begin("V");
+                for (int n = 0; n < places; n++) {
+                    body.op(3);
+                }
+                int at = body.instructions();
+                body.op(op).op(177);
+                finish(op + " with " + places + " places", places >= wanted ? -1 : at);
+            }
+        }
     }
 
     private static void heightsDiffer() {
@@ -540,6 +695,54 @@ public final class CheckTest {
         Due.loaded("what is not come to", small(1, 177, 0));
         Due.loaded("table", ClassMaker.of("()V", new Body(1, 0).label("a").op(3).table(1, "a", "a", "a")));
         Due.loaded("lookup", ClassMaker.of("()V", new Body(1, 0).label("a").op(3).lookup("a", new int[] {5}, "a")));
+    }
+
+    /** The same row ends with the instruction, or with a return behind it: what goes on must not be the last. */
+    private static void everyLastInstruction() {
+        for (String taker : TAKERS) {
+            String[] parts = taker.split(" ");
+            int op = Integer.parseInt(parts[0]);
+            boolean jumps = op >= 153 && op <= 166 || op == 170 || op == 171 || op == 198 || op == 199;
+            if (jumps) {
+                continue;
+            }
+            for (boolean last : new boolean[] {true, false}) {
+                begin("V");
+                pushUnits(parts[1].replace("-", "").replace('A', 'N').replace('E', '0'));
+                int at = body.instructions();
+                put(op);
+                if (!last) {
+                    body.op(177);
+                }
+                finish(taker + (last ? " is the last" : " is not the last"), last && op != 191 ? at : -1);
+            }
+        }
+        for (int op : new int[] {153, 154, 155, 156, 157, 158, 159, 160, 161, 162, 163, 164, 165, 166, 198, 199}) {
+            begin("V");
+            String units = op < 159 ? "I" : op < 165 ? "II" : op < 167 ? "NN" : "N";
+            body.label("again");
+            pushUnits(units);
+            int at = body.instructions();
+            body.jump(op, "again");
+            finish("jump " + op + " is the last", at);
+        }
+    }
+
+    /** The handler at 10 has too few, or two heights; types that went through it would make 1 faulty. */
+    private static void faultsOfHeightStopTypesInCatches() {
+        Body few = new Body(2, 1).jump(167, "b").label("a").op(26).op(87).op(177)
+            .label("b").op(1).op(75).label("f").op(0).label("t").op(3).op(59).jump(167, "a")
+            .label("h").jump(159, "a").op(177).caught("f", "t", "h", 0);
+        Due.breaks("a handler that has too few", 100, 10, ClassMaker.of("()V", few).make());
+        Body two = new Body(2, 1).jump(167, "b").label("a").op(26).op(87).op(177)
+            .label("b").op(1).op(75).label("f").op(0).label("t").op(3).op(59).op(3).jump(153, "h").jump(167, "a")
+            .label("h").jump(167, "a").caught("f", "t", "h", 0);
+        // Each height goes on from the handler by itself, so that 1 is come to with two heights as well.
+        Due.breaks("a handler with two heights", 100, 1, ClassMaker.of("()V", two).make());
+        Body apart = new Body(2, 1).jump(167, "b").label("a").op(26).op(87).op(177)
+            .label("b").op(1).op(75).label("f").op(0).label("t").op(3).op(59).op(3).jump(153, "h").jump(167, "a")
+            .label("h").jump(153, "a").op(177).caught("f", "t", "h", 0);
+        Due.breaks("a handler with too few by one of two heights", 100, 12, ClassMaker.of("()V", apart).make());
     }
 
     private static void faultsOfHeightStopTypes() {
@@ -600,6 +803,103 @@ public final class CheckTest {
         Due.feed(x, ClassMaker.of("()V", code).make());
         Due.is(what + ": load()", 100, x.load());
         Due.is(what + ": place() is 1", !copies, x.place() == 1);
+    }
+
+    /**
+     * A shuffle that takes what it must not goes back to two pops, which are earlier: the first of them is told if the
+     * top that was left is of no type, the second one if what lies below is, and else the shuffle itself.
+     */
+    private static void badShufflesCopyNothing() {
+        for (int op : new int[] {87, 88, 89, 90, 92, 95}) {
+            int wanted = op == 87 || op == 89 ? 1 : 2;
+            for (String units : rows(wanted)) {
+                boolean single = units.length() == wanted && units.indexOf('J') < 0 && units.indexOf('X') < 0;
+                if (single || (op == 88 || op == 92) && units.equals("J")) {
+                    continue;
+                }
+                begin("V");
+                body.jump(167, "main").label("pops");
+                int pops = body.instructions();
+                body.op(87).op(87).op(177).label("main").op(3).op(3);
+                pushUnits(units);
+                int at = body.instructions();
+                body.op(op);
+                String left = "II" + leftOf(op, units.replace("J", "LH"));
+                int top = left.length() - 1;
+                body.jump(167, "pops");
+                boolean topFits = "XLH".indexOf(left.charAt(top)) < 0;
+                boolean lowerFits = "XLH".indexOf(left.charAt(top - 1)) < 0;
+                finish(op + " of bad " + units, !topFits ? pops : !lowerFits ? pops + 1 : at);
+            }
+        }
+    }
+
+    /** The places that a shuffle leaves, with X for all that it does not copy. */
+    private static String leftOf(int op, String places) {
+        int taken = op == 87 || op == 89 ? 1 : 2;
+        String below = places.substring(0, places.length() - taken);
+        String copied = places.substring(places.length() - taken).replace('L', 'X').replace('H', 'X');
+        switch (op) {
+            case 87:
+            case 88:
+                return below;
+            case 89:
+            case 92:
+                return below + copied + copied;
+            case 90:
+                return below + copied.charAt(1) + copied;
+            default:
+                return below + copied.charAt(1) + copied.charAt(0);
+        }
+    }
+
+    /** What was given goes back to an earlier instruction that looks at its type: it is as told, though the taking is a fault. */
+    private static void resultsHaveTheirTypesWhateverWasTaken() {
+        for (String taker : TAKERS) {
+            String[] parts = taker.split(" ");
+            String wanted = parts[1].replace("-", "");
+            String given = parts[2].replace("-", "");
+            if (wanted.isEmpty() || given.isEmpty()) {
+                continue;
+            }
+            for (int probe : new int[] {145, 136, 190, 191}) {
+                begin("V");
+                body.jump(167, "main").label("probe");
+                int early = body.instructions();
+                body.op(probe).op(177).label("main").op(3).op(3);
+                pushUnits(wanted.replace("N", "E").replace("I", "0").replace("A", "I").replace("J", "00"));
+                int at = body.instructions();
+                put(Integer.parseInt(parts[0]));
+                body.jump(167, "probe");
+                finish(taker + " of wrong types, to " + probe, accepts(probe, given.charAt(0)) ? at : early);
+            }
+        }
+        for (int op : new int[] {21, 22}) {
+            for (int probe : new int[] {145, 136}) {
+                begin("V");
+                body.jump(167, "main").label("probe");
+                int early = body.instructions();
+                body.op(probe).op(177).label("main").op(3).op(3);
+                int at = body.instructions();
+                body.op(op, 4).jump(167, "probe");
+                finish(op + " of an error, to " + probe, (op == 21) == (probe == 145) ? at : early);
+            }
+        }
+    }
+
+    /** 132 of a local that is no int is a fault, and leaves ints, an error, a long or nothing as it was. */
+    private static void growKeepsWhatItFinds() {
+        int[][] loads = {{25, 1}, {25, 4}, {22, 2}, {21, 5}};
+        int[] grown = {1, 4, 2, 5};
+        for (int kind = 0; kind < grown.length; kind++) {
+            begin("V");
+            body.jump(167, "main").label("load");
+            int early = body.instructions();
+            body.op(loads[kind]).op(177).label("main");
+            int at = body.instructions();
+            body.op(132, grown[kind], 1).jump(167, "load");
+            finish("grow of local " + grown[kind], kind < 3 ? at : early);
+        }
     }
 
     private static void heightsAreTold() {

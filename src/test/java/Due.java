@@ -70,6 +70,7 @@ final class Due {
         is(what + ": run()", 0, run(x, 0, 50000, arguments));
         is(what + ": result()", want, x.result());
         is(what + ": error()", -1, x.error());
+        is(what + ": strays()", 0, x.strays());
     }
 
     /** A run of method 0 that an error ends. */
@@ -77,5 +78,6 @@ final class Due {
         is(what + ": run()", 1, run(x, 0, 50000, arguments));
         is(what + ": error()", error, x.error());
         is(what + ": result()", 0, x.result());
+        is(what + ": strays()", 0, x.strays());
     }
 }

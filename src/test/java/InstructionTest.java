@@ -219,6 +219,7 @@ public final class InstructionTest {
             }
         }
         farJumps();
+        nearJumpsHaveTwoBytes();
         switchesGoToInstructions();
         ClassMaker other = new ClassMaker();
         other.addMethod("m", "()V", new Body(0, 0).put(177));
@@ -235,6 +236,27 @@ public final class InstructionTest {
         Due.feed(x, maker.make());
         int fault = x.load();
         Due.is(what + ": load()", true, fault == 0 || fault == 100);
+    }
+
+    /** Offsets of two bytes, with sign: to the first and the last instruction of a code of 1200 bytes, and one beyond. */
+    private static void nearJumpsHaveTwoBytes() {
+        for (int op : new int[] {153, 159, 165, 167, 198, 200}) {
+            for (int at : new int[] {0, 600, 1194}) {
+                for (int target : new int[] {-1, 0, 1199, 1200, at - 32768, at + 32767, at + 65536, at - 65536}) {
+                    int[] code = new int[1200];
+                    int width = op == 200 ? 4 : 2;
+                    code[at] = op;
+                    System.arraycopy(four(target - at), 4 - width, code, at + 1, width);
+                    code[1199] = 177;
+                    int met = op == 200 ? target : at + (short) (target - at);
+                    if (met == 0 || met == 1199 || met == at) {
+                        notRule16("jump from " + at + " to " + target, raw(code));
+                    } else {
+                        points("jump from " + at + " to " + target, at, raw(code));
+                    }
+                }
+            }
+        }
     }
 
     private static void farJumps() {
@@ -387,10 +409,13 @@ public final class InstructionTest {
         member("another type", false, 184, 10, "Own", "n", "()I");
         member("another type", false, 184, 10, "Own", "n", "(I)V");
         member("a field", false, 184, 9, "Own", "f", "I");
-        for (int number : new int[] {0, 1, 2, 499, 65535}) {
-            points("no member", 0, members(178, number));
-            points("no member", 0, members(184, number));
+        int beyond = members(178, 0).entries.size() + 1;
+        for (int number : new int[] {0, beyond, 499, 65535}) {
+            for (int op : new int[] {178, 179, 184}) {
+                points("no member", 0, members(op, number));
+            }
         }
+        everyOtherEntryIsNoMember();
         ClassMaker again = members(178, 0);
         int name = again.rawName("Own");
         int owner = again.entry(7, name >> 8, name);
@@ -400,6 +425,35 @@ public final class InstructionTest {
         again.methods.clear();
         again.addMethod("m", "()I", new Body(1, 0).two(178, number).put(172));
         Due.loaded("the same names in other entries", again);
+    }
+
+    /** Only a FIELD is good for 178 and 179, only a METHOD for 184, and each is then. */
+    private static void everyOtherEntryIsNoMember() {
+        for (int op : new int[] {178, 179, 184}) {
+            ClassMaker sorts = sorts(op, 0);
+            for (int number = 1; number <= sorts.entries.size(); number++) {
+                ClassMaker maker = sorts(op, number);
+                byte[] entry = maker.entries.get(number - 1);
+                boolean right = entry != null && entry[0] == (op == 184 ? 10 : 9);
+                if (right) {
+                    notRule16("member by " + op, maker);
+                } else {
+                    points("entry " + number + " is no member for " + op, 0, maker);
+                }
+            }
+        }
+    }
+
+    private static ClassMaker sorts(int op, int number) {
+        ClassMaker maker = new ClassMaker();
+        maker.number(70000);
+        maker.number(1L << 40);
+        maker.field("f", "I");
+        maker.method("n", "()V");
+        maker.addField("f", "I");
+        maker.addMethod("m", "()I", new Body(2, 0).two(op, number).put(3, 172));
+        maker.addMethod("n", "()V", new Body(0, 0).put(177));
+        return maker;
     }
 
     /** 0 push of two bytes, 2 pop, 3 return, 4 pop, 5 return; a catch of from, to, at, type. */
@@ -452,6 +506,37 @@ public final class InstructionTest {
         catchOf("catch of a name", false, 0, 3, 4, names.name("DivideError"));
         catchOf("catch of nothing", false, 0, 3, 4, 499);
         catchOf("catch of nothing", false, 0, 3, 4, 65535);
+        catchOf("catch of n", false, 0, 3, 4, names.entries.size() + 1);
+        for (String error : new String[] {"DivideErro", "DivideErrors", "divideError", "NullErroR", "Size", "0"}) {
+            ClassMaker other = caught(0, 3, 4, 0);
+            int number = other.type(error);
+            byte[] bytes = other.make();
+            int type = other.codeAt(0) + 6 + 2 + 8 + 6;
+            bytes[type] = (byte) (number >> 8);
+            bytes[type + 1] = (byte) number;
+            Due.breaks("catch of " + error, 16, other.codeAt(0) + 16, bytes);
+        }
+        // At the first instruction is fine for rule 16; its heights of 0 and 1 are a fault of the checking.
+        ClassMaker first = caught(0, 3, 0, 0);
+        Due.breaks("catch at 0", 100, 0, first.make());
+        catchesOfTheFirstEntry();
+    }
+
+    private static void catchesOfTheFirstEntry() {
+        for (String error : new String[] {"SizeError", "Size"}) {
+            ClassMaker maker = new ClassMaker();
+            maker.entries.set(0, new byte[] {7, 0, (byte) (maker.entries.size() + 1)});
+            maker.entries.set(1, new byte[] {3, 0, 0, 0, 0});
+            maker.rawName(error);
+            maker.own = 1;
+            maker.above = 1;
+            maker.addMethod("m", "()V", new Body(1, 0).label("a").put(177).label("b").put(87, 177).caught("a", "b", "b", 1));
+            if (error.equals("SizeError")) {
+                Due.loaded("the CLASS is the first entry", maker);
+            } else {
+                points("the CLASS is the first entry, and no error", 5, maker);
+            }
+        }
     }
 
     private static boolean isStart(int place) {

@@ -4,6 +4,7 @@ import java.util.Arrays;
 public final class LayoutTest {
     public static void main(String[] args) {
         everyCutGoesBeyondTheFile();
+        numbersCutInTheMiddle();
         theHeadIsAsTold();
         tagsAreListed();
         namesAreShortAndVisible();
@@ -11,6 +12,7 @@ public final class LayoutTest {
         theFirstPlaceIsTold();
         entriesPointToTheirSort();
         theFirstEntryPoints();
+        numbersOfTheLastEntry();
         flagsAreAsTold();
         classesAreClasses();
         namesAreNames();
@@ -74,6 +76,32 @@ public final class LayoutTest {
         for (int n = 0; n < bytes.length; n++) {
             Due.breaks("cut at " + n, 2, n, Arrays.copyOf(bytes, n));
         }
+    }
+
+    /** Of a number that the file's end cuts nothing is told but that: not even what its first byte would break. */
+    private static void numbersCutInTheMiddle() {
+        byte[] bytes = new ClassMaker().make();
+        ClassMaker maker = new ClassMaker();
+        maker.make();
+        int name = maker.entriesAt.get(maker.name("Own"));
+        for (int place : new int[] {8, name + 1, maker.fieldsAt, maker.methodsAt, maker.fileAttributesAt}) {
+            Due.breaks("a cut number", 2, place + 1, Arrays.copyOf(with(bytes, place, 255), place + 1));
+        }
+        for (int length : new int[] {0, 101, 255, 256, 32768, 65535}) {
+            byte[] wrong = Arrays.copyOf(pair(bytes, name + 1, length), name + 3);
+            Due.breaks("a wrong length is there as a whole", 4, name, wrong);
+        }
+        for (int length : new int[] {1, 100}) {
+            byte[] right = Arrays.copyOf(pair(bytes, name + 1, length), name + 3);
+            Due.breaks("a right length, and no bytes", 2, name + 3, right);
+        }
+        ClassMaker last = new ClassMaker();
+        last.attributes.add(new ClassMaker.Attribute(last.name("Source"), new byte[0]));
+        byte[] attribute = last.make();
+        Due.loaded("an attribute of no bytes", attribute);
+        Due.breaks("a file's last attribute of one byte more", 2, attribute.length,
+            four(attribute, attribute.length - 4, 1));
+        Due.breaks("one more attribute", 2, attribute.length, pair(attribute, last.fileAttributesAt, 2));
     }
 
     private static void theHeadIsAsTold() {
@@ -261,6 +289,30 @@ public final class LayoutTest {
         Due.is("it was a NAME", 1, first[0]);
     }
 
+    /** Numbers go to n - 1: the last entry is one, n is none, and neither is 0. */
+    private static void numbersOfTheLastEntry() {
+        ClassMaker maker = new ClassMaker();
+        int name = maker.name("Last");
+        maker.own = maker.entry(7, 0, name);
+        byte[] bytes = maker.make();
+        int last = maker.entries.size();
+        Due.is("the last entry", last, maker.own);
+        Due.loaded("the last entry is the class", bytes);
+        Due.breaks("behind the last entry", 8, maker.headAt + 2, pair(bytes, maker.headAt + 2, last + 1));
+        int tag = maker.entriesAt.get(last);
+        Due.loaded("to the entry before", pair(bytes, tag + 1, last - 1));
+        Due.breaks("to itself", 6, tag, pair(bytes, tag + 1, last));
+        Due.breaks("to n", 6, tag, pair(bytes, tag + 1, last + 1));
+        Due.breaks("to 0", 6, tag, pair(bytes, tag + 1, 0));
+        Due.breaks("to 65535", 6, tag, pair(bytes, tag + 1, 65535));
+        ClassMaker later = new ClassMaker();
+        ClassMaker.Member field = later.addField("f", "I");
+        field.name = later.rawName("g");
+        byte[] named = later.make();
+        Due.loaded("the last entry is a name", named);
+        Due.breaks("n is no name", 9, field.at + 2, pair(named, field.at + 2, field.name + 1));
+    }
+
     private static int[] numbersOfSorts(ClassMaker maker) {
         int[] numbers = new int[13];
         numbers[1] = maker.name("I");
@@ -343,7 +395,8 @@ public final class LayoutTest {
             methodType(type, true);
         }
         for (String type : new String[] {"I", "(", ")", "()", "()VV", "(V)V", "()IV", "()[J", "([)I", "(I", "(IV", "()[",
-            "((I)I)I", "I()I", "()I ".trim() + ")", "(L)I", "([[I)V", "(I)Z", "()[V", "(I[)V", "[I"}) {
+            "((I)I)I", "I()I", "()I ".trim() + ")", "(L)I", "([[I)V", "(I)Z", "()[V", "(I[)V", "[I", "I)V", "))V", "x)V", "(()V",
+            "()", "()J)", "(I I)V".replace(' ', '.'), "()V.", "(V", "()[", "([", "(J", "()[[I", "([[I)I", "()i", "V", "J"}) {
             methodType(type, false);
         }
         Due.loaded("a PAIR of no one", withPair("any", "thing"));
@@ -407,6 +460,9 @@ public final class LayoutTest {
         methods.addMethod("m", "(I)V", new Body(0, 1).put(177));
         byte[] methodBytes = methods.make();
         Due.breaks("two methods", 11, methods.methods.get(3).at + 2, methodBytes);
+        for (int again = 0; again < 3; again++) {
+            nameAgain(again);
+        }
         ClassMaker shared = full();
         shared.addField("m", "I");
         Due.loaded("a field and a method", shared);
@@ -415,6 +471,29 @@ public final class LayoutTest {
         again.name = other.rawName("h");
         byte[] otherBytes = other.make();
         Due.breaks("the same text of another NAME", 11, again.at + 2, otherBytes);
+    }
+
+    /** Of three members the last two get the name of the one with this number, if it is earlier. */
+    private static void nameAgain(int again) {
+        ClassMaker maker = new ClassMaker();
+        for (int k = 0; k < 3; k++) {
+            maker.addField("f" + (k > again ? again : k), new String[] {"I", "J", "[I"}[k]);
+            maker.addMethod("f" + k, "()I", five());
+        }
+        byte[] bytes = maker.make();
+        ClassMaker methods = new ClassMaker();
+        for (int k = 0; k < 3; k++) {
+            methods.addField("f" + k, "I");
+            methods.addMethod("f" + (k > again ? again : k), "(" + "I".repeat(k) + ")V", new Body(0, 2).put(177));
+        }
+        byte[] methodBytes = methods.make();
+        if (again == 2) {
+            Due.loaded("three names", bytes);
+            Due.loaded("three names", methodBytes);
+        } else {
+            Due.breaks("the later field", 11, maker.fields.get(again + 1).at + 2, bytes);
+            Due.breaks("the later method", 11, methods.methods.get(again + 1).at + 2, methodBytes);
+        }
     }
 
     private static void codeIsThereOnce() {
@@ -440,6 +519,12 @@ public final class LayoutTest {
         ClassMaker.Attribute code = text.methods.get(1).attributes.remove(0);
         text.methods.get(1).attributes.add(new ClassMaker.Attribute(text.rawName("Code"), code.bytes()));
         Due.loaded("another NAME with this text", text);
+        ClassMaker own = full();
+        own.methods.get(0).attributes.clear();
+        own.attributes.add(new ClassMaker.Attribute(own.name("Code"), five().bytes()));
+        own.methods.get(1).attributes.add(new ClassMaker.Attribute(own.name("Code"), five().bytes()));
+        byte[] ownBytes = own.make();
+        Due.breaks("Code of a field, of the file, or of another method", 12, own.methods.get(0).at, ownBytes);
     }
 
     private static void nothingStandsBehind() {
@@ -477,7 +562,25 @@ public final class LayoutTest {
             catches.caught("a", "b", "b", 0);
         }
         Due.loaded("16 catches", ClassMaker.of("()V", catches));
+        Due.is("size(2)", 1, Due.loaded("one byte, no stack, no locals", ClassMaker.of("()V", new Body(0, 0).put(177))).size(2));
+        localsHoldTheParameters();
         twoMethodsInOrder();
+    }
+
+    private static void localsHoldTheParameters() {
+        String[] types = {"()V", "(I)V", "([I)V", "(J)V", "(IJ)V", "([I[IJ)V", "(JJJ)V", "(IIIIIIII)V", "(JJJJ)V"};
+        int[] places = {0, 1, 1, 2, 3, 4, 6, 8, 8};
+        for (int t = 0; t < types.length; t++) {
+            for (int locals = 0; locals <= 26; locals++) {
+                ClassMaker maker = ClassMaker.of(types[t], new Body(0, locals).put(177));
+                byte[] bytes = maker.make();
+                if (locals >= places[t] && locals <= 24) {
+                    Due.loaded(types[t] + " in " + locals, bytes);
+                } else {
+                    Due.breaks(types[t] + " in " + locals, 13, maker.codeAt(0) - 6, bytes);
+                }
+            }
+        }
     }
 
     private static void twoMethodsInOrder() {
@@ -488,6 +591,11 @@ public final class LayoutTest {
         byte[] both = pair(pair(bytes, second - 8, 25), first + 3, 1);
         Due.breaks("rule 14 of the first before 13 of the second", 14, first + 5, both);
         Due.breaks("the other way", 13, first - 8, pair(pair(bytes, first - 8, 25), second + 4, 1));
+        byte[] none = with(bytes, first, 186);
+        Due.breaks("rule 13 of the second before 15 of the first", 13, second - 6, pair(none, second - 6, 25));
+        Due.breaks("rule 14 of the second before 15 of the first", 14, second + 6, pair(none, second + 4, 1));
+        Due.breaks("13 is further left than 14", 13, first - 6, pair(pair(bytes, first + 3, 1), first - 6, 3));
+        Due.breaks("14 is further left than 13 of the next", 14, first + 5, pair(pair(bytes, first + 3, 1), second - 8, 25));
     }
 
     private static void itemsOfCode() {
@@ -502,6 +610,7 @@ public final class LayoutTest {
             byte[] bytes = maker.make();
             Due.breaks("surplus " + more, 14, maker.codeAt(0) - 8 + content.length, bytes);
         }
+        numbersAtTheEndOfCode(content);
         Due.loaded("an attribute in Code", codeOf(withAttribute(content, 0, 3, 3)));
         Due.loaded("its name is not looked at", codeOf(withAttribute(content, 65535, 3, 3)));
         ClassMaker beyond = codeOf(withAttribute(content, 1, 4, 3));
@@ -513,6 +622,27 @@ public final class LayoutTest {
         ClassMaker behind = codeOf(withAttribute(content, 1, 2, 3));
         bytes = behind.make();
         Due.breaks("something stands behind it", 14, behind.codeAt(0) - 8 + content.length + 8, bytes);
+    }
+
+    /** A number that Code ends in is told by 14, whatever stands behind Code; one that is there as a whole by 13. */
+    private static void numbersAtTheEndOfCode(byte[] content) {
+        int[] places = {0, 2, 4, 11};
+        int[] widths = {2, 2, 4, 2};
+        for (int p = 0; p < places.length; p++) {
+            for (int cut = 1; cut <= widths[p]; cut++) {
+                byte[] shorter = Arrays.copyOf(content, places[p] + cut);
+                Arrays.fill(shorter, places[p], places[p] + cut, (byte) 255);
+                ClassMaker maker = codeOf(shorter);
+                maker.methods.get(0).attributes.add(new ClassMaker.Attribute(maker.name("Other"), new byte[] {-1, -1, -1}));
+                byte[] bytes = maker.make();
+                int begin = maker.codeAt(0) - 8;
+                if (cut < widths[p]) {
+                    Due.breaks("a number cut by the end of Code", 14, begin + shorter.length, bytes);
+                } else {
+                    Due.breaks("a wrong number at the end of Code", 13, begin + places[p], bytes);
+                }
+            }
+        }
     }
 
     private static ClassMaker codeOf(byte[] content) {

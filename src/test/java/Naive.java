@@ -96,6 +96,11 @@ final class Naive {
         return bodies.get(m).heights;
     }
 
+    /** I, J and N for ints, one letter for each parameter. */
+    String parameters(int m) {
+        return bodies.get(m).parameters;
+    }
+
     int methodCount() {
         return methods.size();
     }

@@ -21,6 +21,11 @@ public final class RunTest {
         catchesAreSoughtInOrder();
         fuelEndsRuns();
         sixtyMethodsMayRun();
+        errorsOfTheSixtiethMethod();
+        errorsPassThroughMethods();
+        jumpsGoFar();
+        theLastElementIsOne();
+        valuesWrap();
         argumentsAreUsedUp();
         refusedRunsChangeNothing();
         Due.close();
@@ -195,6 +200,49 @@ public final class RunTest {
             Due.gives("long pool", v, Due.loaded("long pool", maker));
         }
         Due.gives("null", 0, of("null", "()[I", new Body(1, 0).put(1, 176)));
+        numbersHaveNoSign();
+        numbersHaveTwoBytes();
+    }
+
+    /** Each entry of this pool is an int that tells its own number, but for the first few and the last few. */
+    private static ClassMaker numbered() {
+        ClassMaker maker = new ClassMaker();
+        while (maker.entries.size() < 400) {
+            int number = maker.entries.size() + 1;
+            maker.entry(3, 0, 0, number >> 8, number);
+        }
+        return maker;
+    }
+
+    /** 18 has one byte without sign, so that it reaches the entries to 255. */
+    private static void numbersHaveNoSign() {
+        for (int number : new int[] {5, 127, 128, 129, 200, 254, 255, 256, 257, 399, 400}) {
+            if (number < 256) {
+                ClassMaker maker = numbered();
+                maker.addMethod("m", "()I", new Body(1, 0).op(18, number).put(172));
+                Due.gives("18 of " + number, number, Due.loaded("18", maker));
+            }
+            ClassMaker far = numbered();
+            far.addMethod("m", "()I", new Body(1, 0).two(19, number).put(172));
+            Due.gives("19 of " + number, number, Due.loaded("19", far));
+        }
+    }
+
+    /** Longs, FIELDs, METHODs and the CLASSes of catches behind entry 255. */
+    private static void numbersHaveTwoBytes() {
+        ClassMaker maker = numbered();
+        maker.addField("j", "J");
+        int field = maker.field("j", "J");
+        int method = maker.method("n", "(J)V");
+        int divide = maker.type("DivideError");
+        int nulls = maker.type("NullError");
+        Body body = new Body(4, 0).two(20, maker.number(1L << 50)).two(184, method).two(178, field).two(20, maker.number(3L)).op(97)
+            .label("f").op(9).op(109).label("t").op(173).label("g").op(87).op(10).op(173).label("h").op(87).two(178, field).op(173);
+        maker.addMethod("m", "()J", body.caught("f", "t", "g", nulls).caught("f", "t", "h", divide));
+        maker.addMethod("n", "(J)V", new Body(2, 2).op(30).two(179, field).op(177));
+        CodeMachine x = Due.loaded("far numbers", maker);
+        Due.gives("far numbers", 1L << 50, x);
+        Due.is("field(0)", 1L << 50, x.field(0));
     }
 
     private static void localsAreStoredAndLoaded() {
@@ -529,6 +577,153 @@ public final class RunTest {
         Due.is("out of fuel", 2, Due.run(x, 0, 60 * 6 - 1, 60));
     }
 
+    /** Method 0 calls itself with one less until it is 0, and divides by it; method 1 is the same with a catch. */
+    private static void errorsOfTheSixtiethMethod() {
+        ClassMaker maker = new ClassMaker();
+        for (int m = 0; m < 2; m++) {
+            int self = maker.method("m" + m, "(I)I");
+            Body body = new Body(2, 1).op(26).jump(153, "a").op(26).op(4).op(100).label("f").two(184, self).label("t").op(4).op(96)
+                .op(172).label("a").op(4).op(26).label("d").op(108).label("e").op(172).label("h").op(87).op(3).op(172);
+            if (m == 1) {
+                body.caught("d", "e", "h", 0);
+            }
+            maker.addMethod("m" + m, "(I)I", body);
+        }
+        int first = maker.method("m0", "(I)I");
+        maker.addMethod("m2", "(I)I", new Body(1, 1).label("f").op(26).two(184, first).op(172)
+            .label("h").op(87).op(16, 77).op(172).caught("f", "h", "h", 0));
+        CodeMachine x = Due.loaded("deep errors", maker);
+        for (int below : new int[] {0, 1, 58, 59}) {
+            Due.fails("not caught", 0, x, below);
+            Due.is("steps()", 6 * below + 5, x.steps());
+            Due.is("caught where it is", 0, Due.run(x, 1, 50000, below));
+            Due.is("result()", below, x.result());
+            Due.is("error()", -1, x.error());
+        }
+        Due.is("the 61st method", 3, Due.run(x, 1, 50000, 60));
+        Due.is("error()", -1, x.error());
+        Due.is("caught by the first", 0, Due.run(x, 2, 50000, 58));
+        Due.is("result()", 77, x.result());
+        Due.is("too deep is no error to catch", 3, Due.run(x, 2, 50000, 59));
+        Due.is("result()", 0, x.result());
+        Due.is("strays()", 0, x.strays());
+    }
+
+    /** Each method calls the next one; the last one's error is caught by the one that wants it, if it calls where it says. */
+    private static void errorsPassThroughMethods() {
+        for (int catcher = 0; catcher < 4; catcher++) {
+            for (int where = 0; where < 4; where++) {
+                CodeMachine x = Due.loaded("passing", passing(catcher, where));
+                if (where < 2) {
+                    Due.gives("caught by " + catcher, 10 * (catcher + 1) + catcher, x);
+                } else {
+                    Due.fails("not caught by " + catcher, 2, x);
+                }
+            }
+        }
+    }
+
+    /** The catch has the call alone (0), all (1), all before it (2), all behind it (3); others want other errors. */
+    private static ClassMaker passing(int catcher, int where) {
+        ClassMaker maker = new ClassMaker();
+        int wanted = maker.type("IndexError");
+        int other = maker.type("NullError");
+        for (int m = 0; m < 4; m++) {
+            Body body = new Body(3, 0).label("begin").op(5).op(87).label("call");
+            if (m < 3) {
+                body.two(184, maker.method("m" + (m + 1), "()I"));
+            } else {
+                body.op(3).op(188, 10).op(3).label("take").op(46);
+            }
+            body.label("behind").op(4).op(96).label("end").op(172).label("h").op(87).op(16, 10 * (m + 1)).op(172).label("last");
+            if (m == catcher) {
+                String call = m < 3 ? "call" : "take";
+                body.caught(where == 0 ? call : where < 3 ? "begin" : "behind", where == 0 ? "behind" : where == 2 ? call : "end",
+                    "h", wanted);
+            }
+            maker.addMethod("m" + m, "()I", body.caught("begin", "end", "h", other));
+        }
+        return maker;
+    }
+
+    /** Offsets that need both of their bytes, on and back. */
+    private static void jumpsGoFar() {
+        for (int op : new int[] {153, 167, 198, 200}) {
+            for (int far : new int[] {120, 130, 250, 260, 590}) {
+                Body all = new Body(1, 1).op(3).op(59);
+                if (op == 153) {
+                    all.op(3);
+                } else if (op == 198) {
+                    all.op(1);
+                }
+                all.jump(op, "on").label("back").op(26).op(172);
+                for (int n = 0; n < far; n++) {
+                    all.op(0);
+                }
+                all.label("on").op(132, 0, 9);
+                if (op == 153) {
+                    all.op(3);
+                } else if (op == 198) {
+                    all.op(1);
+                }
+                all.jump(op, "back").op(4).op(172);
+                Due.gives("jump " + op + " by " + far, 9, of("far", "()I", all));
+            }
+        }
+    }
+
+    /** Element n - 1 of n is there to read and to write, and n is not; of none not even 0. */
+    private static void theLastElementIsOne() {
+        ClassMaker maker = ClassMaker.of("([II)I", new Body(4, 2).put(42, 27, 16, 9, 79, 42, 27, 46, 172));
+        maker.addMethod("make", "(I)[I", new Body(1, 1).put(26, 188, 10, 176));
+        maker.addMethod("read", "([II)I", new Body(2, 2).put(42, 27, 46, 172));
+        CodeMachine x = Due.loaded("elements", maker);
+        int a = 0;
+        for (int length : new int[] {0, 1, 2, 300}) {
+            a++;
+            Due.is("make", 0, Due.run(x, 1, 10, length));
+            for (int index : new int[] {-1, 0, length - 1, length, length + 1, Integer.MAX_VALUE, Integer.MIN_VALUE}) {
+                if (index >= 0 && index < length) {
+                    Due.gives("element " + index + " of " + length, 9, x, a, index);
+                } else {
+                    Due.fails("element " + index + " of " + length, 2, x, a, index);
+                    Due.is("read", 1, Due.run(x, 2, 10, a, index));
+                    Due.is("error()", 2, x.error());
+                    Due.is("element()", 0, x.element(a, index));
+                }
+            }
+        }
+        for (int index : new int[] {-1, 0, 1}) {
+            Due.fails("null before the index", 1, x, 0, index);
+            Due.is("read", 1, Due.run(x, 2, 10, 0, index));
+            Due.is("error()", 1, x.error());
+        }
+    }
+
+    private static void valuesWrap() {
+        Due.gives("grow round", Integer.MIN_VALUE, of("grow", "(I)I", new Body(1, 1).put(132, 0, 1, 26, 172)), Integer.MAX_VALUE);
+        Due.gives("shrink round", Integer.MAX_VALUE, of("grow", "(I)I", new Body(1, 1).put(132, 0, 255, 26, 172)), Integer.MIN_VALUE);
+        for (int growth : new int[] {32767, -32768, 256, -256, 1, -1}) {
+            Body wide = new Body(1, 1).put(196, 132, 0, 0, growth >> 8, growth, 26, 172);
+            CodeMachine x = of("grow far", "(I)I", wide);
+            for (int v : INTS) {
+                Due.gives("grow " + v + " by " + growth, v + growth, x, v);
+            }
+        }
+        CodeMachine div = of("div", "(II)I", new Body(2, 2).put(26, 27, 108, 172));
+        Due.gives("the least by -1", Integer.MIN_VALUE, div, Integer.MIN_VALUE, -1);
+        CodeMachine rem = of("rem", "(II)I", new Body(2, 2).put(26, 27, 112, 172));
+        Due.gives("the least by -1", 0, rem, Integer.MIN_VALUE, -1);
+        CodeMachine longDiv = of("div", "(JJ)J", new Body(4, 4).put(30, 32, 109, 173));
+        Due.gives("the least by -1", Long.MIN_VALUE, longDiv, Long.MIN_VALUE, -1);
+        CodeMachine longRem = of("rem", "(JJ)J", new Body(4, 4).put(30, 32, 113, 173));
+        Due.gives("the least by -1", 0, longRem, Long.MIN_VALUE, -1);
+        Due.fails("the least by 0", 0, div, Integer.MIN_VALUE, 0);
+        Due.fails("the least by 0", 0, longRem, Long.MIN_VALUE, 0);
+        CodeMachine low = of("low", "(II)I", new Body(2, 2).put(26, 27, 108, 172));
+        Due.fails("a divisor whose lowest 32 bits are 0", 0, low, 1, 1L << 32);
+    }
+
     private static void argumentsAreUsedUp() {
         CodeMachine x = new CodeMachine();
         for (int n = 1; n <= 8; n++) {
@@ -570,6 +765,16 @@ public final class RunTest {
         Due.gives("the first and the last", 1 - 8, x, 1, 2, 3, 4, 5, 6, 7, 8);
         CodeMachine y = of("four", "(JJJJ)J", new Body(4, 8).op(30).op(22, 6).op(101).op(173));
         Due.gives("longs", -9L << 40, y, 1L << 40, 0, 0, 10L << 40);
+        for (int n = 1; n <= 8; n++) {
+            Due.is("argument()", n, x.argument(10 * n));
+        }
+        for (int n = 0; n < 3; n++) {
+            Due.is("a ninth argument", -1, x.argument(99));
+        }
+        Due.is("the first eight are kept", 0, x.run(0, 10));
+        Due.is("result()", 10 - 80, x.result());
+        Due.is("argument() after run()", 1, x.argument(1));
+        Due.is("used up", -1, x.run(-1, 10));
         Due.is("too few by one", -2, Due.run(x, 0, 10, 1, 2, 3, 4, 5, 6, 7));
         Due.is("eight for four", -2, Due.run(y, 0, 10, 1, 2, 3, 4, 5, 6, 7, 8));
     }
@@ -594,6 +799,7 @@ public final class RunTest {
     }
 
     private static void refusedRunsChangeNothing() {
+        refusedAfterEachOutcome();
         CodeMachine x = of("kept", "(I)I", new Body(3, 1).put(26, 16, 100, 26, 108, 96, 172));
         Due.gives("kept", 25, x, 20);
         for (int refused = 0; refused < 3; refused++) {
@@ -614,5 +820,55 @@ public final class RunTest {
         Due.is("steps() after load()", 4, x.steps());
         Due.is("run()", 0, x.run(0, 5));
         Due.is("error()", -1, x.error());
+    }
+
+    /** After each outcome refused runs, refused loads and reset() leave what was told of the run. */
+    private static void refusedAfterEachOutcome() {
+        ClassMaker maker = new ClassMaker();
+        int self = maker.method("deep", "()V");
+        maker.addMethod("one", "()I", new Body(1, 0).op(4).op(172));
+        maker.addMethod("fails", "()I", new Body(1, 0).op(2).op(188, 10).op(190).op(172));
+        maker.addMethod("endless", "()V", new Body(0, 0).op(167, 0, 0));
+        maker.addMethod("deep", "()V", new Body(0, 0).two(184, self).op(177));
+        maker.addMethod("large", "()[I", new Body(1, 0).two(17, 20001).op(188, 10).op(176));
+        int[] steps = {2, 2, 100, 60, 2};
+        CodeMachine x = Due.loaded("outcomes", maker);
+        for (int outcome = 0; outcome < 5; outcome++) {
+            Due.is("run()", outcome, x.run(outcome, 100));
+            for (int then = 0; then < 7; then++) {
+                Due.is("result()", outcome == 0 ? 1 : 0, x.result());
+                Due.is("error()", outcome == 1 ? 3 : -1, x.error());
+                Due.is("steps()", steps[outcome], x.steps());
+                refused(x, then);
+            }
+        }
+        Due.is("strays()", 0, x.strays());
+    }
+
+    private static void refused(CodeMachine x, int way) {
+        switch (way) {
+            case 0:
+                Due.is("no method", -1, Due.run(x, 5, 10, 1));
+                break;
+            case 1:
+                Due.is("an argument too many", -2, Due.run(x, 0, 10, 1));
+                break;
+            case 2:
+                Due.is("no such fuel", -3, x.run(0, 50001));
+                break;
+            case 3:
+                x.feed(0, 0, 0, 0, 0);
+                Due.is("load()", 1, x.load());
+                break;
+            case 4:
+                Due.is("reset()", true, x.reset());
+                break;
+            case 5:
+                x.argument(5);
+                Due.is("no method, and the argument is used up", -1, x.run(-1, 10));
+                break;
+            default:
+                break;
+        }
     }
 }

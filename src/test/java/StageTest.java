@@ -11,6 +11,10 @@ public final class StageTest {
         arraysAreCounted();
         nothingIsDoneBeyondTheLimits();
         nothingStrays();
+        theStageStaysFromRunToRun();
+        resetWithoutAStage();
+        anyFieldOfTwentyFour();
+        argumentsMayBeTheLastArray();
         Due.close();
     }
 
@@ -212,6 +216,108 @@ public final class StageTest {
             }
             x.run(m, random.nextInt(8));
             Due.is("strays()", 0, x.strays());
+        }
+    }
+
+    /** What a run did before it was ended by an error, by its fuel, by depth or by size stays. */
+    private static void theStageStaysFromRunToRun() {
+        ClassMaker maker = new ClassMaker();
+        maker.addField("f", "I");
+        maker.addField("a", "[I");
+        int f = maker.field("f", "I");
+        int a = maker.field("a", "[I");
+        int self = maker.method("m3", "()V");
+        for (int m = 0; m < 5; m++) {
+            Body body = new Body(3, 0).op(16, 10 + m).two(179, f).op(7).op(188, 10).op(89).two(179, a).op(5).op(8).op(79);
+            switch (m) {
+                case 0:
+                    body.op(177);
+                    break;
+                case 1:
+                    body.op(1).op(191);
+                    break;
+                case 2:
+                    body.label("again").jump(167, "again");
+                    break;
+                case 3:
+                    body.label("deep").two(184, self).op(177);
+                    break;
+                default:
+                    body.two(17, 20001).op(188, 10).op(87).op(177);
+            }
+            maker.addMethod("m" + m, "()V", body);
+        }
+        CodeMachine x = Due.loaded("stays", maker);
+        int arrays = 0;
+        for (int m = 0; m < 5; m++) {
+            Due.is("run()", m, x.run(m, 1000));
+            arrays += m == 3 ? 60 : 1;
+            Due.is("field(0)", 10 + m, x.field(0));
+            Due.is("field(1)", arrays, x.field(1));
+            Due.is("arrayLength()", 4, x.arrayLength(arrays));
+            Due.is("arrayLength() behind", -1, x.arrayLength(arrays + 1));
+            Due.is("element()", 5, x.element(arrays, 2));
+            Due.is("element() of the first", 5, x.element(1, 2));
+        }
+        Due.is("a refused run()", -1, x.run(5, 10));
+        Due.is("field(0) stays", 14, x.field(0));
+        Due.is("arrayLength() stays", 4, x.arrayLength(arrays));
+    }
+
+    private static void resetWithoutAStage() {
+        CodeMachine x = new CodeMachine();
+        Due.is("reset()", false, x.reset());
+        x.feed(0xCAFEBABE, 49, 0, 0, 0);
+        Due.is("reset() of the tray's file", false, x.reset());
+        Due.is("end(20)", true, x.end(20));
+        Due.is("load()", 5, x.load());
+        Due.is("reset() after a faulty load()", false, x.reset());
+        Due.feed(x, all().make());
+        Due.is("reset() before the load()", false, x.reset());
+        Due.is("load()", 0, x.load());
+        Due.is("reset()", true, x.reset());
+        Due.is("reset() again", true, x.reset());
+        Due.is("load() of nothing", 2, x.load());
+        Due.is("reset() of the file that stayed", true, x.reset());
+    }
+
+    private static void anyFieldOfTwentyFour() {
+        ClassMaker maker = new ClassMaker();
+        for (int k = 0; k < 24; k++) {
+            maker.addField("f" + k, k % 2 == 0 ? "J" : "I");
+        }
+        for (int m = 0; m < 24; m++) {
+            String type = m % 2 == 0 ? "J" : "I";
+            maker.addMethod("m" + m, "(" + type + ")" + type, new Body(2, 2).op(m % 2 == 0 ? 30 : 26).two(179, maker.field("f" + m, type))
+                .two(178, maker.field("f" + m, type)).op(m % 2 == 0 ? 173 : 172));
+        }
+        CodeMachine x = Due.loaded("24 fields", maker);
+        for (int k = 23; k >= 0; k--) {
+            long v = k % 2 == 0 ? Long.MIN_VALUE + k : Integer.MIN_VALUE + k;
+            Due.is("run()", 0, Due.run(x, k, 10, v));
+            Due.is("result()", v, x.result());
+        }
+        for (int k = 0; k < 24; k++) {
+            Due.is("field()", k % 2 == 0 ? Long.MIN_VALUE + k : Integer.MIN_VALUE + k, x.field(k));
+        }
+        Due.is("field(24)", 0, x.field(24));
+        Due.is("run() of method 24", -1, x.run(24, 10));
+        Due.is("height() in method 23", 0, x.height(23, 0));
+        Due.is("height() in method 24", -1, x.height(24, 0));
+    }
+
+    /** As an argument for ints the number of the last array is one, and the next is none. */
+    private static void argumentsMayBeTheLastArray() {
+        CodeMachine x = Due.loaded("arguments", all());
+        for (int arrays = 0; arrays <= 5; arrays++) {
+            for (long number = -1; number <= arrays + 1; number++) {
+                boolean right = number >= 0 && number <= arrays;
+                Due.is("array " + number + " of " + arrays, right ? 0 : -2, Due.run(x, 2, 10, number));
+                if (right) {
+                    Due.is("field(2)", number, x.field(2));
+                }
+            }
+            Due.is("make", 0, Due.run(x, 6, 10, arrays));
         }
     }
 }

@@ -8,6 +8,9 @@ public final class TrayTest {
         theTrayIsFull();
         endCuts();
         loadEmptiesTheTray();
+        refusedFeedsFeedNothing();
+        allThatIsFedCounts();
+        thePlaceIsOfTheLatestLoad();
         theFifthWordIsTheLast();
         Due.close();
     }
@@ -91,6 +94,69 @@ public final class TrayTest {
         Due.is("load()", 0, x.load());
         Due.is("place()", -1, x.place());
         Due.is("place() again", -1, x.place());
+    }
+
+    /** At 15981 bytes there is no room for twenty more; what was refused neither lies in the tray nor counts. */
+    private static void refusedFeedsFeedNothing() {
+        CodeMachine x = new CodeMachine();
+        for (int n = 1; n <= 800; n++) {
+            x.feed(0, 0, 0, 0, 0);
+        }
+        Due.is("end(15981)", true, x.end(15981));
+        for (int n = 0; n < 100; n++) {
+            Due.is("feed() without room", -1, x.feed(-1, -1, -1, -1, -1));
+        }
+        Due.is("end(15982)", false, x.end(15982));
+        Due.is("end(15981)", true, x.end(15981));
+        Due.is("end(15980)", true, x.end(15980));
+        Due.is("feed() with just room", 16000, x.feed(0, 0, 0, 0, 0));
+        Due.is("end(16001)", false, x.end(16001));
+        Due.is("end(16000)", true, x.end(16000));
+        for (int n = 801; n < 3276; n++) {
+            x.end(0);
+            Due.is("feed()", 20, x.feed(0, 0, 0, 0, 0));
+        }
+        Due.is("feed() beyond 65536", -1, x.feed(0, 0, 0, 0, 0));
+        Due.is("end(21)", false, x.end(21));
+        Due.is("end(20)", true, x.end(20));
+    }
+
+    /** load() empties the tray, but what was fed before it still counts, and so does what end() cut. */
+    private static void allThatIsFedCounts() {
+        CodeMachine x = new CodeMachine();
+        for (int n = 1; n <= 3276; n++) {
+            Due.is("feed()", 20, x.feed(0, 0, 0, 0, 0));
+            if (n % 3 > 0) {
+                x.end(n % 20);
+            }
+            Due.is("load()", n % 3 > 0 && n % 20 == 0 ? 2 : 1, x.load());
+        }
+        Due.is("feed() beyond 65536", -1, x.feed(0, 0, 0, 0, 0));
+        Due.is("the tray is empty", false, x.end(1));
+        Due.is("load()", 2, x.load());
+    }
+
+    private static void thePlaceIsOfTheLatestLoad() {
+        CodeMachine x = new CodeMachine();
+        x.feed(0xCAFEBABE, 49, 0x00010021, 0, 0);
+        x.end(7);
+        Due.is("place() before the first load()", -1, x.place());
+        Due.is("load()", 2, x.load());
+        Due.is("place()", 7, x.place());
+        Due.feed(x, SMALL);
+        Due.is("feed() leaves place()", 7, x.place());
+        x.run(0, 10);
+        x.reset();
+        Due.is("run() and reset() leave place()", 7, x.place());
+        Due.is("load()", 0, x.load());
+        Due.is("place() of none", -1, x.place());
+        Due.feed(x, ClassMaker.of("()V", new Body(1, 0).put(177, 0, 0)).make());
+        Due.is("load() of what is not come to", 0, x.load());
+        Due.feed(x, ClassMaker.of("()V", new Body(1, 0).put(0, 0)).make());
+        Due.is("load()", 100, x.load());
+        Due.is("place() is the number of the instruction", 1, x.place());
+        Due.is("load() of the empty tray", 2, x.load());
+        Due.is("place()", 0, x.place());
     }
 
     private static void theFifthWordIsTheLast() {
